@@ -90,6 +90,14 @@ public final class ArmTest {
         CHECK.due("a slanting side 40 far, folded to 40", d.reaches(0), 0);
         d.arm(7, 9, 89, 0);
         CHECK.due("a slanting side 40 far, folded to 39", d.reaches(0), 1);
+        // POINT 0 is farthest: 50 from the foot, the others nearer.
+        Check.draw(d, 0, 7 + 30, 9 - 40, 7 + 20, 9, 7 + 25, 9);
+        d.rod(30);
+        d.arm(7, 9, 21, 0);
+        CHECK.due("the first point 50 far, both 51", d.reaches(0), 1);
+        d.arm(7, 9, 20, 0);
+        CHECK.due("the first point 50 far, both 50", d.reaches(0), 0);
+        Check.draw(d, 0, 7 + 48, 9 + 14, 7, 9 + 50, 7 + 48, 9 + 50);
         d.rod(80);
         d.arm(7, 9, 80, 0);
         CHECK.due("rod as long as the arm", d.reaches(0), 1);

@@ -28,6 +28,9 @@ public final class FiguresTest {
         d.move(0, 0, -1, -1);
         CHECK.due("A 100, B 0, ROD 150 at first", d.ring(0, 0), 100 * 100 + 150 * 150);
         CHECK.due("ROD at first", d.rod(1), 150);
+        DrawnAreas foot = new DrawnAreas();
+        Check.draw(foot, 0, 0, 0, 7, 9, -5, 8);
+        CHECK.due("only 0, 0 is on a side", foot.ring(0, 1), LOST - 5);
         DrawnAreas other = new DrawnAreas();
         CHECK.due("objects share nothing", other.at(0, -1, 0), 0);
         CHECK.due("objects share no rod", other.rod(2), 150);
@@ -159,6 +162,13 @@ public final class FiguresTest {
         simpleIs(d, 0, "a point twice", 0, 0, 10, 0, 5, 5, 10, 10, 0, 10, 5, 5);
         simpleIs(d, 0, "a spike out and back", 0, 0, 10, 0, 20, 0, 10, 0, 0, 10);
         simpleIs(d, 0, "a spike back on the side before", 0, 0, 10, 0, 4, 0, 0, 10);
+        simpleIs(d, 0, "a spike straight up", 3, 1, 3, 20, 3, 7, -9, 4);
+        simpleIs(d, 0, "a slanting spike", -7, 3, 11, 12, 5, 9, -9, 30);
+        simpleIs(d, 0, "a slanting spike down", 9, -30, 3, 6, 5, -6, -20, -7);
+        simpleIs(d, 1, "a slanting straight line", -7, 3, 5, 9, 11, 12, -9, 30);
+        simpleIs(d, 1, "a straight line up", 3, 1, 3, 7, 3, 20, -9, 4);
+        simpleIs(d, 0, "a narrow bow", 0, 0, 2, 1, 1, 1, 1, 0);
+        simpleIs(d, 0, "a narrow bow from its other end", 2, 1, 0, 0, 1, 0, 1, 1);
         simpleIs(d, 0, "the last side back on the first", 0, 0, 10, 0, 10, 10, 5, 0);
         simpleIs(d, 0, "sides on one line that overlap", 0, 0, 10, 0, 10, 5, 15, 5, 15, 0, 5, 0, 5, -5, 0, -5);
         simpleIs(d, 1, "sides on one line apart", 0, 0, 4, 0, 4, 3, 6, 3, 6, 0, 10, 0, 10, 9, 0, 9);
@@ -197,6 +207,11 @@ public final class FiguresTest {
         CHECK.due("winds left at the height of corners", d.winds(2, -11, 0), 0);
         CHECK.due("winds at the height of the top", d.winds(2, -5, 10), 0);
         CHECK.due("winds at the height of the lowest", d.winds(2, -5, -10), 0);
+        Check.draw(d, 2, 0, 0, 2, 1, -5, 1, -5, -1);
+        CHECK.due("winds close beside a side", d.winds(2, -1, 0), 1);
+        CHECK.due("winds on the first side alone", d.winds(2, 2, 1), -1006);
+        Check.draw(d, 2, -4, 2, 4, -2, 9, 9);
+        CHECK.due("winds in the midst of the first side", d.winds(2, 2, -1), -1006);
         Check.draw(d, 3, 0, 0, 10, 10, 10, 0, 0, 10);
         CHECK.due("winds in the bow's right half", d.winds(3, 9, 5), -1);
         CHECK.due("winds in the bow's left half", d.winds(3, 1, 5), 1);

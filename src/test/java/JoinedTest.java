@@ -107,6 +107,8 @@ public final class JoinedTest {
         CHECK.due("part, not closed", d.part(0, 1, 5), -3);
         Check.draw(d, 0, 0, 0, 10, 0, 5, 10);
         CHECK.due("part at no whole place", d.part(0, 1, 5), -5);
+        Check.draw(d, 0, 0, 0, 5, 10, 0, 10);
+        CHECK.due("part, the first side alone at no whole place", d.part(0, 1, 3), -5);
         Check.draw(d, 0, 0, 0, 5, 10, -5, 10);
         CHECK.due("part, the last side alone at no whole place", d.part(0, 1, 3), -5);
         CHECK.duePoints("refused", d, 1, 7, 7);
@@ -152,6 +154,12 @@ public final class JoinedTest {
         comb(d, 8, 9, 2);
         CHECK.due("part: 9 highs and 16 crossings", d.part(0, 1, 0), -4);
         CHECK.due("refused: as before", d.at(1, -1, 0), 24);
+        comb(d, 7, 11, 2);
+        d.move(0, 15, 90, 0);
+        CHECK.due("part: 10 highs, a point at h and 14 crossings", d.part(0, 1, 0), -4);
+        comb(d, 7, 10, 2);
+        d.move(0, 15, 90, 0);
+        CHECK.due("part: 9 highs, a point at h and 14 crossings", d.part(0, 1, 0), 24);
         comb(d, 12, 12, 1);
         CHECK.due("part: crossings at no whole place, but too many: FULL first", d.part(0, 1, 0), -4);
         comb(d, 8, 8, 1);

@@ -66,6 +66,13 @@ public final class RailTest {
         d.move(0, 1, 5, -11);
         CHECK.due("can, moved nearer", d.can(0), 1);
         d.move(0, 2, 9, 12);
+        d.move(0, 0, 0, -12);
+        CHECK.due("can, the last and the first point as far as the rod", d.can(0), 0);
+        d.move(0, 2, 9, 11);
+        CHECK.due("can, the first point alone as far as the rod", d.can(0), 0);
+        d.move(0, 0, 0, 11);
+        CHECK.due("can, all nearer", d.can(0), 1);
+        d.move(0, 2, 9, 12);
         CHECK.due("can, the last point above as far as the rod", d.can(0), 0);
     }
 
@@ -100,6 +107,10 @@ public final class RailTest {
         CHECK.due("a slanting side, 1 to the right", d.rail(0, 1, 1000), 0);
         CHECK.due("right end at 80.4, to 81", d.rail(0, 0, 81), 1);
         CHECK.due("right end at 80.4, to 80", d.rail(0, 0, 80), 0);
+        Check.draw(d, 0, 90, 40, 0, 0, 20, 0);
+        CHECK.due("the first point alone is farthest right, to 60", d.rail(0, -50, 60), 1);
+        CHECK.due("the first point alone is farthest right, to 59", d.rail(0, -50, 59), 0);
+        CHECK.due("the second point is farthest left", d.rail(0, -49, 60), 0);
         // The POINTER itself is left of a, though outside the circle: its FOOT is farther left.
         Check.draw(d, 0, -60, 10, -60, -10, -70, 0);
         CHECK.due("all left of the rail", d.rail(0, 0, 1000), 0);
@@ -124,7 +135,8 @@ public final class RailTest {
         CHECK.due("shut at whole roots, low", d.shut(4, 0) - d.shut(3, 0), 9000000000L / (5 * 4001));
         CHECK.due("shut at whole roots, high", d.shut(4, 1) - d.shut(3, 1), 1 + 16000000000L / (5 * 3000));
         d.rod(400);
-        CHECK.holds("F lies between", d.shut(399, 0) < d.shut(399, 1));
+        CHECK.due("shut of the longest rod, low", d.shut(399, 0), 279438296);
+        CHECK.due("shut of the longest rod, high", d.shut(399, 1), 293521443);
         CHECK.due("shut h as long as the rod", d.shut(400, 1), LOST - 2);
         d.rod(1);
         CHECK.due("shut of the shortest rod", d.shut(0, 1), 0);
