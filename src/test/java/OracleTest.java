@@ -14,12 +14,14 @@ public final class OracleTest {
     private final DrawnAreas d = new DrawnAreas();
     private final Oracle o = new Oracle();
     private final int reach;
+    private final int wildEvery;
     private final StringBuilder told = new StringBuilder();
 
     private OracleTest(int seed) {
         random = new Random(seed);
         // Small figures meet themselves and one another more often.
         reach = new int[] {2, 4, 10, 30, 100}[seed % 5];
+        wildEvery = seed % 7 == 0 ? 4 : 60;
     }
 
     public static void main(String[] args) {
@@ -54,7 +56,7 @@ public final class OracleTest {
     }
 
     private int in(int least, int most) {
-        int v = random.nextInt(60) == 0 ? WILD[random.nextInt(WILD.length)] : least + random.nextInt(most - least + 1);
+        int v = random.nextInt(wildEvery) == 0 ? WILD[random.nextInt(WILD.length)] : least + random.nextInt(most - least + 1);
         told.append(' ').append(v);
         return v;
     }

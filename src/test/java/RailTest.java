@@ -111,6 +111,12 @@ public final class RailTest {
         CHECK.due("the first point alone is farthest right, to 60", d.rail(0, -50, 60), 1);
         CHECK.due("the first point alone is farthest right, to 59", d.rail(0, -50, 59), 0);
         CHECK.due("the second point is farthest left", d.rail(0, -49, 60), 0);
+        // Both ends of SIDE 0 have the FOOT at 0, between them it is a little left of it.
+        Check.draw(d, 0, 3, 4, 4, 3, 60, 3, 60, 4);
+        d.rod(5);
+        CHECK.due("a short side through the circle", d.rail(0, 0, 1000), 0);
+        CHECK.due("a short side, from -1 on", d.rail(0, -1, 1000), 1);
+        d.rod(50);
         // The POINTER itself is left of a, though outside the circle: its FOOT is farther left.
         Check.draw(d, 0, -60, 10, -60, -10, -70, 0);
         CHECK.due("all left of the rail", d.rail(0, 0, 1000), 0);
