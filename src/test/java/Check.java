@@ -1,6 +1,7 @@
 /** Counts the answers that are not as due; a test ends with end(). */
 final class Check {
     private final String name;
+    private String sentence = "";
     private int calls = 0;
     private int wrong = 0;
 
@@ -8,11 +9,16 @@ final class Check {
         this.name = name;
     }
 
+    /** The document's words that the answers from here on are about. */
+    void says(String words) {
+        sentence = " [" + words + "]";
+    }
+
     void due(String call, long got, long want) {
         calls++;
         if (got != want) {
             wrong++;
-            System.out.println(name + ": " + call + " answered " + got + ", due is " + want);
+            System.out.println(name + sentence + ": " + call + " answered " + got + ", due is " + want);
         }
     }
 
