@@ -23,6 +23,7 @@ public final class ArmBoundsTest {
         reachesArmAsLongAsTheRod();
         reachesTheirSize();
         reachesFarthestFoot();
+        reachesThePointsThatAre();
         CHECK.end();
     }
 
@@ -321,5 +322,17 @@ public final class ArmBoundsTest {
         reachesIs(d, 283, 142, 1);
         d.arm(-200, -200, 282, 0);
         reachesIs(d, 282, 142, 0);
+    }
+
+    private static void reachesThePointsThatAre() {
+        CHECK.says("The POINTER REACHES all of a FIGURE");
+        DrawnAreas d = new DrawnAreas();
+        Bounds.heap(d, 0, 24, -100, -100);
+        Bounds.heap(d, 0, 3, 95, 80);
+        d.rod(10);
+        d.arm(95, 95, 6, 0);
+        CHECK.due("reaches, 15 far; 0, 0 and the cleared points are no part of it", d.reaches(0), 1);
+        CHECK.due("one more of it", d.point(0, -100, -100), 3);
+        CHECK.due("reaches, too far", d.reaches(0), 0);
     }
 }

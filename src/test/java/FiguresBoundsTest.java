@@ -438,6 +438,8 @@ public final class FiguresBoundsTest {
         simpleIs(0, "sides on one line that touch", 0, 0, 4, 0, 4, 4, 8, 4, 8, 0, 4, 0, 4, -4, 0, -4);
         simpleIs(1, "sides on one line 1 apart", 0, 0, 4, 0, 4, 4, 5, 4, 5, 0, 9, 0, 9, 9, 0, 9);
         simpleIs(0, "sides that cross near their ends", 0, 0, 100, 99, 99, 99, 100, 98);
+        simpleIs(0, "sides that cross, all ends as near as can be", 0, 0, 2, 1, 1, 1, 1, 0);
+        simpleIs(0, "long sides that cross, all ends as near as can be", -100, -99, 99, 100, 98, 99, -99, -98);
         simpleIs(1, "a narrow bay", 0, 0, 100, 0, 100, 3, 1, 1, 100, 4, 0, 4);
     }
 
@@ -514,6 +516,13 @@ public final class FiguresBoundsTest {
         CHECK.due("winds just right of a side", d.winds(0, 0, 0), 0);
         CHECK.due("winds just left of a side, farther on", d.winds(0, 1, 2), 1);
         CHECK.due("winds just right of a side, farther on", d.winds(0, 1, 1), 0);
+        // As near to a SIDE that goes down as a place can be, on both sides of it.
+        Check.draw(d, 0, 3, 2, 0, 0, 3, -9);
+        CHECK.due("winds just left of a side that goes down", d.winds(0, 2, 1), 1);
+        CHECK.due("winds just right of a side that goes down", d.winds(0, 1, 1), 0);
+        d.copy(0, 0, true);
+        CHECK.due("winds just right of a side that goes up", d.winds(0, 2, 1), -1);
+        CHECK.due("winds just left of a side that goes up", d.winds(0, 1, 1), 0);
     }
 
     private static void windsOnASideWithoutLength() {

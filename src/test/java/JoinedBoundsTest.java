@@ -386,6 +386,8 @@ public final class JoinedBoundsTest {
         comb(d, 1, 22, 2);
         CHECK.due("22 highs, 2 crossings", d.part(0, 1, 0), 24);
         CHECK.due("full", d.point(1, 0, 0), -4);
+        d.move(0, 21, 44, 0);
+        CHECK.due("21 highs, one at h, 2 crossings", d.part(0, 1, 0), 24);
         comb(d, 0, 24, 2);
         CHECK.due("24 highs", d.part(0, 1, 0), 24);
         comb(d, 12, 12, 2);
@@ -401,6 +403,8 @@ public final class JoinedBoundsTest {
         CHECK.due("9 highs, 16 crossings", d.part(0, 1, 0), -4);
         comb(d, 1, 23, 2);
         CHECK.due("23 highs, 2 crossings", d.part(0, 1, 0), -4);
+        d.move(0, 22, 44, 0);
+        CHECK.due("22 highs, one at h, 2 crossings", d.part(0, 1, 0), -4);
         comb(d, 12, 12, 2);
         CHECK.due("12 highs, 24 crossings", d.part(0, 1, 0), -4);
         comb(d, 9, 9, 2);

@@ -337,6 +337,16 @@ public final class RailBoundsTest {
             CHECK.due("rail, cut off at 10, from 2, begun at " + first, d.rail(0, 2, 1000), 0);
             CHECK.due("rail, cut off at 10, from 1, begun at " + first, d.rail(0, 1, 1000), 1);
         }
+        // As short a SIDE as goes from the circle into it and out again.
+        d.rod(5);
+        for (int first = 0; first < 4; first++) {
+            Bounds.drawFrom(d, 0, first, 3, 4, 4, 3, 60, 3, 60, 4);
+            CHECK.due("rail, cut off at 0, begun at " + first, d.rail(0, 0, 1000), 0);
+            CHECK.due("rail, cut off at 0, from -1, begun at " + first, d.rail(0, -1, 1000), 1);
+            Bounds.drawFrom(d, 0, first, 3, -4, 60, -4, 60, -3, 4, -3);
+            CHECK.due("rail, cut off at 0 below, begun at " + first, d.rail(0, 0, 1000), 0);
+            CHECK.due("rail, cut off at 0 below, from -1, begun at " + first, d.rail(0, -1, 1000), 1);
+        }
     }
 
     private static void railBetweenWholeNumbers() {
