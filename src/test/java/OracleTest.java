@@ -2,8 +2,10 @@ import java.util.Random;
 
 /** Many runs of calls, good and bad, on the class and on the Oracle: they must answer the same. */
 public final class OracleTest {
-    private static final int RUNS = 1500;
+    private static final int RUNS = 2500;
     private static final int CALLS = 512;
+    // Drawing a figure, or laying one along a SIDE, takes this many calls at most.
+    private static final int MOST_AT_ONCE = 16;
     private static final int[] WILD = {
         Integer.MIN_VALUE, Integer.MIN_VALUE + 1, -1000001, -1001, -301, -201, -101, -2, -1, 0, 1, 2, 3, 24, 25,
         101, 201, 301, 401, 1001, 10001, 1000001, Integer.MAX_VALUE - 1, Integer.MAX_VALUE
@@ -16,6 +18,7 @@ public final class OracleTest {
     private final int reach;
     private final int wildEvery;
     private final StringBuilder told = new StringBuilder();
+    private int used = 0;
 
     private OracleTest(int seed) {
         random = new Random(seed);
@@ -28,7 +31,7 @@ public final class OracleTest {
         for (int seed = 0; seed < RUNS && wrong < 5; seed++) {
             new OracleTest(seed).run(seed);
         }
-        System.out.println("OracleTest: " + RUNS + " runs of " + CALLS + " calls, " + wrong + " not as due");
+        System.out.println("OracleTest: " + RUNS + " runs of up to " + CALLS + " calls, " + wrong + " not as due");
         if (wrong != 0) {
             System.exit(1);
         }
@@ -38,12 +41,13 @@ public final class OracleTest {
         for (int i = 0; i < 3 + random.nextInt(22); i++) {
             pointToo();
         }
-        for (int call = 0; call < CALLS - 30; call++) {
+        while (used < CALLS - MOST_AT_ONCE) {
+            used++;
             int kind = random.nextInt(40);
             long[] got = kind < 20 ? figuresCall(kind) : railCall(kind - 20);
             if (got[0] != got[1]) {
                 wrong++;
-                System.out.println("run " + seed + ", call " + call + ": " + told + " answered " + got[0] + ", due is " + got[1]);
+                System.out.println("run " + seed + ", call " + used + ": " + told + " answered " + got[0] + ", due is " + got[1]);
                 return;
             }
         }
@@ -53,6 +57,7 @@ public final class OracleTest {
         int f = random.nextInt(3), x = in(-reach, reach), y = in(-reach, reach);
         d.point(f, x, y);
         o.point(f, x, y);
+        used++;
     }
 
     private int in(int least, int most) {
@@ -139,6 +144,7 @@ public final class OracleTest {
         int f = random.nextInt(6);
         long got = d.clear(f), due = o.clear(f);
         int points = random.nextInt(9);
+        used += points;
         for (int i = 0; i < points; i++) {
             int x = in(-reach, reach), y = in(-reach, reach);
             got = got * 31 + d.point(f, x, y);
@@ -150,10 +156,12 @@ public final class OracleTest {
     /** A second figure is laid along a SIDE of the first, most times: by chance SIDES seldom fit. */
     private long[] joinCall() {
         int a = random.nextInt(3), n = d.at(a, -1, 0);
+        used++;
         if (n >= 3 && random.nextInt(4) != 0) {
             int side = random.nextInt(n), shift = random.nextInt(4);
             int b = 3 + random.nextInt(3), more = 1 + random.nextInt(3);
             int size = 2 + more;
+            used += 5 + size;
             int[][] made = new int[size][];
             for (int k = 0; k < size; k++) {
                 int from = k == 0 ? (side + 1) % n : side;
@@ -226,6 +234,7 @@ public final class OracleTest {
         // Near the rod's length to the left of the figure it is that the foot runs.
         int was = d.rod(1);
         d.rod(was);
+        used += 2;
         int f = figure();
         int a = random.nextInt(4) == 0 ? in(-1000, 1000) : in(-was - reach - 1, reach - was / 2);
         int b = random.nextInt(3) == 0 ? 1000 : in(-was - reach, reach + 1);
