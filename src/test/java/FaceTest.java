@@ -5,8 +5,11 @@ import java.lang.reflect.Modifier;
 import java.nio.file.Files;
 import java.nio.file.Path;
 import java.util.Arrays;
+import java.util.HashSet;
 import java.util.Set;
 import java.util.TreeSet;
+import java.util.regex.Matcher;
+import java.util.regex.Pattern;
 
 /** The public face, and those rules of LANGUAGE.md that can be seen in the class or its text. */
 public final class FaceTest {
@@ -26,6 +29,8 @@ public final class FaceTest {
         constants();
         methods();
         members();
+        documentsFace();
+        sizes();
         text();
         CHECK.end();
     }
@@ -83,13 +88,50 @@ public final class FaceTest {
         }
     }
 
+    /** The face as the document has it, so that METHODS above is no other. */
+    private static void documentsFace() throws Exception {
+        String page = Files.readString(Path.of("../shared/DOC.md"));
+        int from = page.indexOf("```java\n");
+        int to = page.indexOf("\n```\n", from);
+        CHECK.holds("the document has a piece of Java", from >= 0 && to > from);
+        if (from < 0 || to <= from) {
+            return;
+        }
+        Matcher call = Pattern.compile("public (int|long) (\\w+)\\(([^)]*)\\);").matcher(page.substring(from, to));
+        Set<String> told = new TreeSet<>();
+        while (call.find()) {
+            told.add(call.group(1) + " " + call.group(2) + "(" + call.group(3).replaceAll("(\\w+) \\w+", "$1").replace(" ", "") + ")");
+        }
+        CHECK.holds("the document's methods: " + told, told.equals(new TreeSet<>(Arrays.asList(METHODS))));
+    }
+
+    /** Rule 11, as far as it can be seen from outside. */
+    private static void sizes() {
+        Set<Class<?>> all = new HashSet<>(Arrays.asList(DrawnAreas.class.getDeclaredClasses()));
+        CHECK.holds("twelve classes at most", all.size() < 12);
+        all.add(DrawnAreas.class);
+        for (Class<?> c : all) {
+            int fields = 0;
+            for (Field f : c.getDeclaredFields()) {
+                fields += Modifier.isStatic(f.getModifiers()) ? 0 : 1;
+            }
+            CHECK.holds(c.getName() + " has twenty fields at most", fields <= 20);
+            for (Method m : c.getDeclaredMethods()) {
+                CHECK.holds(m.getName() + " takes seven numbers at most", m.getParameterCount() <= 7);
+            }
+        }
+    }
+
     private static void text() throws Exception {
         String text = Files.readString(Path.of("src/main/java/DrawnAreas.java"));
         String bare = text.replaceAll("(?s)/\\*.*?\\*/", "").replaceAll("//[^\n]*", "");
         for (String word : new String[] {
             "import ", "package ", "catch", "finally", "->", "::", "Exact", "synchronized", "assert ", "double ",
-            "float ", "System.", "static {"}) {
+            "float ", "System.", "static {", "throw", "instanceof", "while"}) {
             CHECK.holds("the text has no '" + word + "'", !bare.contains(word));
         }
+        CHECK.holds("the text's signs are 1 to 127", text.chars().allMatch(c -> c >= 1 && c <= 127));
+        // Two rows of a figure, the row of figures and a figure: all of them in constructors.
+        CHECK.due("things made", bare.split("\\bnew\\b", -1).length - 1, 4);
     }
 }
